@@ -734,6 +734,11 @@ public final class PegDiscs {
             return has;
         }
 
+        /** How many numbers arrangements of these DISCS are among. */
+        private int arrangements() {
+            return 1 << 2 * discs;
+        }
+
         private int allOn(int peg) {
             int all = 0;
             for (int d = 0; d < discs; d++) {
@@ -791,16 +796,16 @@ public final class PegDiscs {
         /** The MOVES that may be, bits by their numbers. */
         private int movesFrom(int arrangement, boolean odd) {
             int lying = lyingIn(arrangement);
-            int found = 0;
+            int may = 0;
             for (int from = 0; from < pegs; from++) {
                 int there = lying >> 6 * from & 63;
                 for (int to = 0; to < pegs && there != 0; to++) {
                     if (to != from && mayGo(leastOf(there), from - to, lying >> 6 * to & 63, odd)) {
-                        found |= 1 << 4 * from + to;
+                        may |= 1 << 4 * from + to;
                     }
                 }
             }
-            return found;
+            return may;
         }
 
         /** Whether a DISC may go over to a PEG with these DISCS beneath. */
@@ -1100,7 +1105,8 @@ public final class PegDiscs {
 
         private long weightsOn(int disc, int peg, boolean onlyStuck) {
             long sum = 0;
-            for (int a = 0; a < ARRANGEMENTS; a++) {
+            int most = net.law.arrangements();
+            for (int a = 0; a < ARRANGEMENTS && a < most; a++) {
                 if (weights[a] != 0 && (a >> 2 * disc & 3) == peg && (!onlyStuck || net.movesAt(a | odd) == 0)) {
                     sum += weights[a];
                 }
@@ -1111,7 +1117,8 @@ public final class PegDiscs {
         /** One MOVE further; the weights are shared among the MOVES, or go whole to each. */
         private void goOn(boolean shared) {
             Arrays.fill(coming, 0);
-            for (int a = 0; a < ARRANGEMENTS; a++) {
+            int most = net.law.arrangements();
+            for (int a = 0; a < ARRANGEMENTS && a < most; a++) {
                 int may = weights[a] == 0 ? 0 : net.movesAt(a | odd);
                 int many = Integer.bitCount(may);
                 if (many != 0) {
