@@ -29,6 +29,7 @@ public final class ForetoldTest {
         image();
         restore();
         foretellingChangesNothing();
+        foretoldAnew();
         Check.end("ForetoldTest");
     }
 
@@ -194,6 +195,7 @@ public final class ForetoldTest {
         f.move(0, 1);
         Check.due("19: none at all", f.ring(), NONE);
         Check.due("19: frail over plain, each in turn", Check.on("t3,2;f0;p0;").ring(), 7);
+        Check.due("19: frail over plain, on another PEG", Check.on("t3,2;f2;p2;").ring(), 7);
     }
 
     private static void ways() {
@@ -330,6 +332,8 @@ public final class ForetoldTest {
             Check.due("22: place " + i, x.fits(0, 0, i, 1, 0), PLACE);
         }
         Check.due("22: beyond the end", x.fits(0, 0, 0, 4, 0), PLACE);
+        Check.tell(x, 2, 1, 10, 1, 10, 1, 10, 1, 10, 1, 10, 1, 10, 1, 10, 1, 10);
+        Check.due("22: n 16", x.fits(0, 2, 0, 16, 1), 5);
     }
 
     private static void dueChance(PegDiscs x, int disc, int peg, int n, long above, long below) {
@@ -398,6 +402,11 @@ public final class ForetoldTest {
         Check.due("24: 20 by 7, how often", y.drawn(20, 7, 1), 16);
         Check.due("24: 60 by 9", y.drawn(60, 9, 0), 112);
         Check.due("24: 60 by 9, how often", y.drawn(60, 9, 1), 39);
+        PegDiscs z = Check.on("t3,3;p0;s0;h0;g1;f1;");
+        Check.due("24: all KINDS, 20 by 7", z.drawn(20, 7, 0), 11022);
+        Check.due("24: all KINDS, 20 by 7, how often", z.drawn(20, 7, 1), 18);
+        Check.due("24: all KINDS, 60 by 9", z.drawn(60, 9, 0), 11002);
+        Check.due("24: all KINDS, 60 by 9, how often", z.drawn(60, 9, 1), 42);
         PegDiscs f = Check.on("t3,3;f0;");
         Check.due("24: then all stays", f.drawn(60, 1, 0), 2);
         Check.due("24: once", f.drawn(60, 1, 1), 1);
@@ -495,5 +504,48 @@ public final class ForetoldTest {
         for (int d = 0; d < 6; d++) {
             Check.due("15 to 24: KIND", x.kind(d), kinds[d]);
         }
+    }
+
+    private static void read(PegDiscs x, String text) {
+        Check.feed(x, text);
+        x.board();
+    }
+
+    /** What was foretold of one BOARD is not told of another that differs in one thing only. */
+    private static void foretoldAnew() {
+        PegDiscs x = Check.on("t3,1;g0;p1;");
+        Check.tell(x, 0, 1, 1);
+        dueAnew(x, "HIGH 1", NONE, 6, 0, 0);
+        x.high(2);
+        dueAnew(x, "HIGH 2", 1, 9, 1, 3);
+        x.high(1);
+        dueAnew(x, "HIGH 1 again", NONE, 6, 0, 0);
+        read(x, "t3,1;p0;p1;");
+        dueAnew(x, "another KIND", 1, 9, 1, 3);
+        read(x, "t4,1;p0;p1;");
+        dueAnew(x, "more PEGS", 1, 16, 1, 5);
+        x.move(0, 1);
+        dueAnew(x, "ARRANGED otherwise", 0, 16, 0, 0);
+        read(x, "t4,1;p0;p1;p1;");
+        Check.due("anew: more DISCS", x.world(0), 64);
+        read(x, "t3,1;f0;");
+        Check.due("anew: frail, even", x.world(0), 3);
+        Check.due("anew: frail, even, dead", x.world(3), 2);
+        x.move(0, 1);
+        x.put(0, 0);
+        Check.due("anew: frail, odd", x.world(0), 1);
+        Check.due("anew: frail, odd, dead", x.world(3), 1);
+        Check.due("anew: frail, odd, FAR", x.world(1), 0);
+        x.undo();
+        x.undo();
+        Check.due("anew: frail, even again", x.world(0), 3);
+    }
+
+    /** LEAST and WAYS to both DISCS on PEG 1, WORLD, and what is below of DISC 0 there behind one MOVE. */
+    private static void dueAnew(PegDiscs x, String what, int least, int world, int ways, int below) {
+        Check.due("anew: " + what + ", LEAST", x.least(0, 0, -1), least);
+        Check.due("anew: " + what + ", WORLD", x.world(0), world);
+        Check.due("anew: " + what + ", WAYS", x.ways(0, 0, 1), ways);
+        Check.due("anew: " + what + ", CHANCE", x.chance(0, 1, 1, 1), below == 0 ? 1 : below);
     }
 }
