@@ -472,10 +472,11 @@ public final class PegDiscs {
     }
 
     private Layers layered() {
+        Net looked = netNow();
         if (layers == null) {
-            layers = new Layers();
+            layers = new Layers(looked);
         }
-        layers.begin(netNow());
+        layers.begin();
         return layers;
     }
 
@@ -1066,12 +1067,15 @@ public final class PegDiscs {
         private static final int PARTS = 60;
         private long[] weights = new long[ARRANGEMENTS];
         private long[] coming = new long[ARRANGEMENTS];
-        private Net net;
+        private final Net net;
         private int odd;
 
-        private void begin(Net looked) {
+        private Layers(Net looked) {
             net = looked;
-            int start = looked.start();
+        }
+
+        private void begin() {
+            int start = net.start();
             Arrays.fill(weights, 0);
             weights[start & ARRANGEMENTS - 1] = 1;
             odd = start & ODD;
