@@ -464,7 +464,7 @@ public final class PegDiscs {
         if (search == null) {
             search = new Search();
         }
-        if (!search.of.isAhead(board)) {
+        if (!search.of.hasFutureOf(board)) {
             search.begin(board);
             search.spread(netNow());
         }
@@ -723,7 +723,7 @@ public final class PegDiscs {
         }
 
         /** Whether the same lies ahead of both. */
-        private boolean isAhead(Board other) {
+        private boolean hasFutureOf(Board other) {
             return hasLawOf(other) && arranged == other.arranged && (moves & 1) == (other.moves & 1);
         }
 
