@@ -26,11 +26,13 @@ public final class TermsEdgesTest {
         can();
         leastOfSeveral();
         leastByNone();
+        leastOfFrail();
         worldAndFar();
         rings();
         deadEnds();
         waysOf();
         judgedOf();
+        judgedOfEachNumber();
         sortsBeganHighs();
         chances();
         evenings();
@@ -596,6 +598,37 @@ public final class TermsEdgesTest {
                 """);
     }
 
+    /** A frail one waits for an even number: the same ARRANGEMENT is come to by even numbers, by odd ones, or by both. */
+    private static void leastOfFrail() {
+        Sheet.of("LEAST, MOVES from now on", """
+                read t3,3;f0;p1; = 2
+                tell 0 1 1 2 2 0 0
+                least 0 0 -1 = 1           # 1 1: by one, an odd number
+                least 0 1 -1 = 4           # 1 2: the plain one steps aside and comes back
+                least 0 1 0 = 2
+                least 0 1 1 = 10
+                least 0 1 2 = 21
+                least 0 1 3 = 2
+                least 0 2 -1 = 5           # 2 2
+                least 0 4 -1 = 3           # 0 0
+                move 1 2 = 1
+                least 0 0 -1 = 2           # 1 1, MOVES is odd now
+                least 0 1 -1 = 5           # 1 2
+                least 0 2 -1 = 6           # 2 2
+                least 0 4 -1 = 4           # 0 0
+                put 1 1 = 2                # as at first, but for MOVES
+                least 0 0 -1 = 6
+                least 0 1 -1 = 2
+                least 0 2 -1 = 2
+                least 0 4 -1 = 4
+                tower 1 -1 = 6
+                undo = 1
+                undo = 0
+                least 0 0 -1 = 1
+                tower 1 -1 = 1
+                """);
+    }
+
     private static void worldAndFar() {
         Sheet.of("WORLD (that one, too); FAR, of several that of the least CODE", """
                 read t3,1;f0; = 1
@@ -697,6 +730,17 @@ public final class TermsEdgesTest {
                 tell 0 4
                 judge 0 0 1 = 0
                 """);
+    }
+
+    /** With DISCS on each PEG all numbers from far below the first MOVE to far above the last: those alone that CAN tells. */
+    private static void judgedOfEachNumber() {
+        for (int from = -200; from < 1300; from += 100) {
+            Sheet s = Sheet.of("JUDGED (also if it is none at all)", "read t4,1;p3;p2;p0; = 3", "row 0 2 1 = 1");
+            for (int told = from; told < from + 100; told++) {
+                boolean may = told == 1 || told == 20 || told == 21 || told >= 30 && told <= 32;
+                s.on("set 0 0 " + told + " = " + told, "judge 0 0 1 = " + (may ? "NONE" : "0"));
+            }
+        }
     }
 
     private static void sortsBeganHighs() {
@@ -819,5 +863,26 @@ public final class TermsEdgesTest {
                 trace 4 = 10
                 trace 5 = NONE             # empty ahead of it
                 """);
+        dueBodies("p", 0, 2, "11 10 21 20");
+        dueBodies("p", 1, 2, "21 20");
+        dueBodies("s", 0, -4, "12 11 10 24 21 20");
+        dueBodies("s", 1, 4, "24 21 20");
+        dueBodies("h", 0, -998, "11 10 22 21 20");
+        dueBodies("h", 1, -998, "22 21 20");
+        dueBodies("g", 0, -100, "13 10");
+        dueBodies("g", 1, 101, "23 20 13 10");
+        dueBodies("f", 0, -200, "14 13 10");
+        dueBodies("f", 1, 201, "23 20 14 13 10");
+    }
+
+    /** Of DISC 0, the one DISC there is, on PEG 1. */
+    private static void dueBodies(String sort, int what, int answer, String bodies) {
+        Sheet s = Sheet.of("the BODY told for the KIND, else that of the nearest KIND that it is, too, else the one that is lent",
+                "read t3,1;" + sort + "1; = 1", "ask 0 " + what + " = " + answer);
+        String[] numbers = bodies.split(" ");
+        for (int i = 0; i < numbers.length; i++) {
+            s.on("trace " + i + " = " + numbers[i]);
+        }
+        s.on("trace " + numbers.length + " = NONE");
     }
 }

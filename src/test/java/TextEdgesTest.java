@@ -197,6 +197,7 @@ public final class TextEdgesTest {
                 put 1 1 = 3
                 count 3 = 1
                 count 5 = 3
+                drawn 60 1 1 = 51          # what is foretold is not what is
                 read t3,2;h1; = 1
                 count 1 = 3
                 count 2 = 1
