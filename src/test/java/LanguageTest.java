@@ -78,6 +78,7 @@ public final class LanguageTest {
         }
         for (Class<?> c : inside) {
             sizes(c);
+            bearsNoPublicName(c);
         }
         sizes(PegDiscs.class);
     }
@@ -87,6 +88,18 @@ public final class LanguageTest {
         Check.holds(c + " has not too many fields", fields <= MOST_FIELDS);
         for (Method m : c.getDeclaredMethods()) {
             Check.holds(m + " has not too many parameters", m.getParameterCount() <= MOST_PARAMETERS);
+        }
+    }
+
+    /** Rule 1, of the classes inside too: all is private, and no method bears the name of a public one. */
+    private static void bearsNoPublicName(Class<?> inside) {
+        String names = " " + String.join(" ", FACE).replaceAll("\\([^)]*\\)", "") + " ";
+        for (Method m : inside.getDeclaredMethods()) {
+            Check.holds(m + " is private", Modifier.isPrivate(m.getModifiers()));
+            Check.holds(m + " bears no public name", !names.contains(" " + m.getName() + " "));
+        }
+        for (Field f : inside.getDeclaredFields()) {
+            Check.holds(f + " is private", Modifier.isPrivate(f.getModifiers()));
         }
     }
 
